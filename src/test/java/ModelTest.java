@@ -2,7 +2,7 @@ import java.util.Random;
 
 /** Random runs of calls on the program and on the plain model: every answer must be the same. */
 public final class ModelTest {
-    private static final int RUNS = 1500;
+    private static final int RUNS = 250;
     private static final int CALLS = 120;
     private static final Due DUE = new Due();
 

@@ -68,6 +68,7 @@ final class PlainModel {
         int of(Sight s);
     }
     static final class Fault extends Exception {
+        private static final long serialVersionUID = 1;
         final int place;
         Fault(int place) { this.place = place; }
     }
