@@ -35,8 +35,8 @@ public final class StairLines {
     private static final int STACK_SIZE = 64;
 
     /** The tokens of a text; its signs are tokens by their own bytes, which are above these. */
-    private static final int END = 0, WRONG = 1, NUMBER = 2, NAME = 3, KEY_SLOWS = 4, KEY_COMES = 5;
-    private static final int KEY_MINDS = 6, KEY_OR = 7, KEY_AND = 8, KEY_NOT = 9;
+    private static final int END = 0, WRONG = 1, NUMBER = 2, NAME = 3;
+    private static final int KEY_SLOWS = 4, KEY_OR = 7, KEY_AND = 8, KEY_NOT = 9;
     private static final int KEYS = 6, WORDS = KEYS + NAMES, MOST_DIGITS = 4;
 
     private static final int SHEETS = 4, MOST_CELLS = 40;
@@ -565,7 +565,10 @@ public final class StairLines {
     private int leastApart() {
         for (int d = 0; d <= MOST_APART; d++) {
             beginTrialApart(d);
-            trial.runOut(RUN_TICKS);
+            // once somebody stands, the rest of the run can't mend it
+            for (int ticks = 0; ticks < RUN_TICKS && trial.stood == 0 && !trial.stair.isAllOut(); ticks++) {
+                trial.passTick(NONE);
+            }
             if (trial.stood == 0) {
                 return d;
             }
@@ -936,21 +939,18 @@ public final class StairLines {
             at = 0;
             fault = NONE;
             advance();
-            readRule(KEY_SLOWS, SLOWS);
-            readRule(KEY_COMES, COMES);
-            readRule(KEY_MINDS, MINDS);
+            for (int rule = 0; rule < RULES; rule++) {
+                // the keys' tokens stand in the order of the rules
+                accept(KEY_SLOWS + rule);
+                readEither(0);
+                accept(';');
+                into.ends[rule] = into.length;
+            }
             if (token != END) {
                 refuse();
             }
             length = 0;
             return fault;
-        }
-
-        private void readRule(int key, int which) {
-            accept(key);
-            readEither(0);
-            accept(';');
-            into.ends[which] = into.length;
         }
 
         private void accept(int wanted) {
@@ -1136,11 +1136,11 @@ public final class StairLines {
         }
 
         private static boolean isLetter(int letter) {
-            return between(letter, 'a', 'z');
+            return letter >= 'a' && letter <= 'z';
         }
 
         private static boolean isDigit(int letter) {
-            return between(letter, '0', '9');
+            return letter >= '0' && letter <= '9';
         }
 
         private static boolean isSign(int letter) {

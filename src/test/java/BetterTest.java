@@ -41,6 +41,11 @@ public final class BetterTest {
         y.step(8, 4, 4);
         DUE.is("ends with 8 wider", y.run(0), 7);
 
+        StairLines v = new StairLines();
+        v.step(0, 1, 1);
+        v.come(1, 0, 1);
+        DUE.is("the first step", v.widen(), 0);
+
         StairLines z = new StairLines();
         z.step(9, 5, 9);
         z.come(60, 9, 9);
@@ -67,6 +72,8 @@ public final class BetterTest {
         y.come(2, 9, 1992);
         y.come(2, 9, 1992);
         DUE.is("no later than 199", y.later(), StairLines.NONE);
+        y.drill();
+        DUE.is("whatever was asked ahead", y.later(), StairLines.NONE);
         y.set(0, 1, 190);
         y.set(0, 0, 190);
         DUE.is("199 is later", y.later(), 0);
@@ -102,6 +109,8 @@ public final class BetterTest {
         v.come(31, 9, 1);
         v.come(1, 9, 1);
         DUE.is("no d beyond 30", v.apart(0), StairLines.NONE);
+        v.step(9, 1, 1);
+        DUE.is("never out, whatever d", v.apart(1), 0);
     }
 
     private static void order() {
@@ -209,6 +218,8 @@ public final class BetterTest {
         DUE.is("in an even tick: 1 none, 2 two, 3 none, 4 two", x.drill(), 5);
         x.tick();
         DUE.is("in an odd tick", x.drill(), 4);
+        x.step(9, 1, 1);
+        DUE.is("400 at most", x.drill(), 400);
     }
 
     private static void judge() {

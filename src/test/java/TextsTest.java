@@ -46,6 +46,9 @@ public final class TextsTest {
     }
 
     private static void faults() {
+        good(PLAIN + " ".repeat(160 - PLAIN.length()));
+        good("slows " + "1+".repeat(67) + "1;comes2;minds3;");
+        fault(" ".repeat(160), 160);
         good(PLAIN);
         good(" \n" + PLAIN + " \n ");
         good("slows1;comes2;minds3;");
@@ -103,6 +106,11 @@ public final class TextsTest {
         fault("slows 1 " + (char) 228 + ";", 8);
         fault("slows 1 " + (char) 0 + ";", 8);
         fault("slows M;", 6);
+        fault("tlows 1;", 0);
+        fault("slows xany;", 6);
+        fault("slows manz;", 6);
+        fault("slows man;", 6);
+        fault("slows o;", 6);
         fault("slows 1_;", 7);
     }
 
@@ -149,6 +157,19 @@ public final class TextsTest {
         DUE.is("behind a fault", Due.text(x, PLAIN), 1);
         DUE.is("empty", x.text(), -100);
         DUE.is("next number", Due.text(x, PLAIN), 2);
+        // nothing of a text that had a fault stays in the next one
+        x.force(2);
+        x.come(9, 9, 9);
+        x.tick();
+        DUE.is("comes 2", x.told(9, 4), 2);
+        x.tick();
+        DUE.is("slows 1", x.told(9, 4), 3);
+        DUE.is("a fault far behind", Due.text(x, "slows 9;comes 9;minds 9*(;"), -125);
+        DUE.is("next number", Due.text(x, "slows 2;comes 4;minds 7;"), 3);
+        x.force(3);
+        DUE.is("comes 4, slows 2", x.on(9, 1), 7);
+        x.set(0, 0, 199);
+        DUE.is("minds 7", x.run(2), 7 * x.run(1));
     }
 
     private static void force() {
@@ -208,6 +229,7 @@ public final class TextsTest {
         value("5 or 0", 1);
         value("0 or 0", 0);
         value("0 or 0 or -1", 1);
+        value("1 and 1", 1);
         value("5 and 3", 1);
         value("5 and 0", 0);
         value("4 and 2", 1);
@@ -232,6 +254,12 @@ public final class TextsTest {
         value("2048*2048*512-1<0", 0);
         value("2048*2048*512<0", 1);
         value("\n 4\n+ 4 ", 8);
+        // as much as can wait for its right side at once
+        String waiting = "0 or 1 and 1=0+1*(".repeat(5);
+        value(waiting + "1" + ")))))", 1);
+        value(waiting + "0" + ")))))", 0);
+        value("1" + "+1".repeat(67), 9);
+        value("8-" + "8-".repeat(60) + "0+8*60", 8);
     }
 
     private static void names() {
@@ -282,6 +310,16 @@ public final class TextsTest {
         z.tick();
         z.tick();
         DUE.is("step 4 sees that step 5 is left by then", z.told(5, 4), 2);
+
+        StairLines v = new StairLines();
+        Due.text(v, "slows 9*(0<ahead);comes 9;minds 0;");
+        v.force(1);
+        v.come(3, 9, 3);
+        v.come(1, 8, 1);
+        v.tick();
+        v.tick();
+        DUE.is("step 8 sees who is on step 9", v.told(8, 4), 1);
+        DUE.is("step 9 sees nobody", v.count(2), 2);
     }
 
     private static void bounds() {
@@ -300,6 +338,12 @@ public final class TextsTest {
         DUE.is("minds above 99: five for 400 ticks", x.run(2), 5 * 400 * 99);
         x.step(9, 0, 9);
         DUE.is("slows 9 stops the widest", x.on(9, 1), 5);
+        StairLines y = new StairLines();
+        Due.text(y, "slows 2;comes 9;minds 0;");
+        y.come(1, 9, 1);
+        y.tick();
+        y.force(1);
+        DUE.is("a single one is slowed", y.on(9, 1), 1);
     }
 
     private static void textZero() {

@@ -52,6 +52,13 @@ public final class TicksTest {
         DUE.is("one more, as one left", x.told(5, 4), 1);
         DUE.is("two stay", x.told(4, 4), 2);
         DUE.is("on 6", x.told(6, 4), 1);
+
+        StairLines y = new StairLines();
+        y.step(9, 3, 1);
+        y.come(2, 8, 2);
+        y.tick();
+        y.tick();
+        DUE.is("step 9 has room for one", y.told(9, 4), 1);
     }
 
     private static void tickByClasses() {
@@ -217,5 +224,11 @@ public final class TicksTest {
         DUE.is("most stood on 2", x.holdsUp(), 2);
         x.step(5, 3, 1);
         DUE.is("ahead of a sharp turn", x.holdsUp(), 4);
+
+        StairLines y = new StairLines();
+        y.come(3, 0, 3);
+        DUE.is("only on step 0 one stands", y.holdsUp(), 0);
+        DUE.is("one stood one tick", y.run(1), 1);
+        DUE.is("most are on step 0", y.run(3), 3);
     }
 }
