@@ -295,7 +295,7 @@ public final class BetterTest {
         x.come(5, 2, 2);
         Due.ticks(x, 5);
         DUE.is("image", x.image(), 5);
-        int[] was = state(x);
+        int[] was = Due.state(x);
         x.step(3, 1, 5);
         x.step(7, 4, 1);
         x.set(0, 0, 77);
@@ -305,32 +305,13 @@ public final class BetterTest {
         x.come(4, 4, 4);
         Due.ticks(x, 6);
         DUE.is("back", x.back(), 5);
-        int[] is = state(x);
+        int[] is = Due.state(x);
         for (int i = 0; i < was.length; i++) {
             DUE.is("state " + i, is[i], was[i]);
         }
         DUE.is("the class that came is gone", x.told(2, 5), StairLines.BAD);
         DUE.is("its number is free", x.come(6, 6, 66), 2);
         DUE.is("and all its are in", x.told(2, 9), 6);
-    }
-
-    private static int[] state(StairLines x) {
-        int[] state = new int[70];
-        int n = 0;
-        for (int what = 0; what < 8; what++) {
-            state[n++] = x.count(what);
-        }
-        for (int s = 0; s < 10; s++) {
-            for (int what = 0; what < 5; what++) {
-                state[n++] = x.told(s, what);
-            }
-        }
-        for (int c = 0; c < 2; c++) {
-            for (int what = 5; what < 10; what++) {
-                state[n++] = x.told(c, what);
-            }
-        }
-        return state;
     }
 
     private static void backTwice() {

@@ -41,6 +41,26 @@ final class Due {
         }
     }
 
+    /** All that can be told of the stair and its first two classes. */
+    static int[] state(StairLines x) {
+        int[] state = new int[68];
+        int n = 0;
+        for (int what = 0; what < 8; what++) {
+            state[n++] = x.count(what);
+        }
+        for (int s = 0; s < 10; s++) {
+            for (int what = 0; what < 5; what++) {
+                state[n++] = x.told(s, what);
+            }
+        }
+        for (int c = 0; c < 2; c++) {
+            for (int what = 5; what < 10; what++) {
+                state[n++] = x.told(c, what);
+            }
+        }
+        return state;
+    }
+
     void end() {
         System.out.println(asked + " answers, " + wrong + " not as due");
         if (wrong != 0) {

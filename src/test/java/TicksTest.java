@@ -150,7 +150,7 @@ public final class TicksTest {
         StairLines x = tenOnTheLast();
         x.come(20, 0, 15);
         x.tick();
-        int[] was = state(x);
+        int[] was = Due.state(x);
         for (int what = 0; what < 4; what++) {
             x.run(what);
         }
@@ -168,29 +168,10 @@ public final class TicksTest {
         x.drawn(4711);
         Due.row(x, 0, 1, 2, 3);
         x.judge(9, 0);
-        int[] is = state(x);
+        int[] is = Due.state(x);
         for (int i = 0; i < was.length; i++) {
             DUE.is("state " + i, is[i], was[i]);
         }
-    }
-
-    private static int[] state(StairLines x) {
-        int[] state = new int[8 + 50 + 10];
-        int n = 0;
-        for (int what = 0; what < 8; what++) {
-            state[n++] = x.count(what);
-        }
-        for (int s = 0; s < 10; s++) {
-            for (int what = 0; what < 5; what++) {
-                state[n++] = x.told(s, what);
-            }
-        }
-        for (int c = 0; c < 2; c++) {
-            for (int what = 5; what < 10; what++) {
-                state[n++] = x.told(c, what);
-            }
-        }
-        return state;
     }
 
     private static void on() {
