@@ -18,6 +18,7 @@ public final class EdgesOfBetterTest {
         laterTo199AtMost();
         laterOfLikeOnes();
         laterOfTheLastClass();
+        laterOfTheLeast();
         apartOfTwo();
         apartOfNobody();
         apartFrom0To30();
@@ -33,6 +34,7 @@ public final class EdgesOfBetterTest {
         orderOfFive();
         orderByStood();
         orderOfLikeOnes();
+        orderOfLikeOnesWhoStand();
         orderOfBellsThatHaveRung();
         orderOfWhoNeverEnds();
         shutOfSteps();
@@ -163,13 +165,27 @@ public final class EdgesOfBetterTest {
     private static void widenOfWhoNeverEnds() {
         StairLines x = Edges.stuck(2);
         DUE.is("never", x.run(0), 400);
-        DUE.is("once", x.widen(), 9);
+        DUE.is("it would end", x.widen(), 9);
         x.step(9, 0, 2);
         x.step(8, 1, 1);
         x.step(7, 1, 1);
         x.come(1, 6, 1);
         DUE.is("never, whatever is wider", x.widen(), NONE);
         DUE.is("to 400 or beyond", Edges.queue(100).widen(), NONE);
+        DUE.is("400 to 399", threeComeInTick(397).widen(), 9);
+        DUE.is("401 to 400", threeComeInTick(398).widen(), NONE);
+        StairLines y = new StairLines();
+        y.come(3, 9, 1993);
+        DUE.is("202 to 201", y.widen(), 9);
+    }
+
+    /** They are out three ticks behind it, or two, were step 9 wider. */
+    private static StairLines threeComeInTick(int tick) {
+        StairLines x = new StairLines();
+        rule(x, "0", "9*(tick=" + tick + ")", "0");
+        x.come(3, 9, 3);
+        DUE.is("not in fewer", x.run(0), 400);
+        return x;
     }
 
     // ---- later
@@ -251,6 +267,21 @@ public final class EdgesOfBetterTest {
         EDGES.leaves("later", Edges::busy, StairLines::later, Edges.busy().later());
     }
 
+    /** "would let STOOD be least": the first is less than it is, the others are less than that. */
+    private static void laterOfTheLeast() {
+        StairLines x = new StairLines();
+        x.come(1, 9, 501);
+        x.come(2, 9, 502);
+        x.come(2, 9, 502);
+        DUE.is("of five four stand", x.run(1), 4);
+        DUE.is("the first of the twos", x.later(), 1);
+        x.set(0, 0, 70);
+        DUE.is("of four two stand", x.run(1), 2);
+        x.set(0, 0, 50);
+        x.set(0, 1, 70);
+        DUE.is("of three one stands", x.run(1), 1);
+    }
+
     // ---- apart
 
     private static void apartOfTwo() {
@@ -296,6 +327,13 @@ public final class EdgesOfBetterTest {
         DUE.is("29", oneByOne(29, 5).apart(0), 29);
         DUE.is("30", oneByOne(30, 5).apart(0), 30);
         DUE.is("31 would do", oneByOne(31, 5).apart(0), NONE);
+        for (int c = 0; c < 2; c++) {
+            StairLines y = oneByOne(20, 2);
+            y.set(0, c, 199);
+            DUE.is("whatever bell class " + c + " has", y.apart(0), 20);
+            rule(y, "9*(1<many)", "9", "0");
+            DUE.is("soonest, whatever bell class " + c + " has", y.apart(1), 20);
+        }
         StairLines x = oneByOne(1, 5);
         for (int c = 1; c < 5; c++) {
             x.set(0, c, 199);
@@ -317,6 +355,8 @@ public final class EdgesOfBetterTest {
         rule(x, "0", "0", "0");
         x.come(1, 3, 1);
         DUE.is("who never comes never stands", x.apart(0), 0);
+        DUE.is("who comes in the last tick does not stand", comesInTick(399).apart(0), 0);
+        DUE.is("who comes in the one ahead stands in the last", comesInTick(398).apart(0), NONE);
     }
 
     /** "SOONEST: that d by which ENDS is least": two at once are stuck for ever. */
@@ -326,6 +366,9 @@ public final class EdgesOfBetterTest {
             rule(x, "9*(1<many)", "9", "0");
             DUE.is("as far as the size " + size, x.apart(1), size);
         }
+        StairLines z = oneByOne(30, 5);
+        rule(z, "9*(1<many)", "9", "0");
+        DUE.is("five of the size 30", z.apart(1), 30);
         StairLines y = oneByOne(31, 2);
         rule(y, "9*(1<many)", "9", "0");
         DUE.is("31 would do", y.apart(1), 0);
@@ -344,6 +387,14 @@ public final class EdgesOfBetterTest {
         y.come(4, 9, 4);
         y.come(4, 9, 4);
         DUE.is("1 of two", y.apart(1), 1);
+    }
+
+    /** One who steps on in that tick alone, and is stuck then. */
+    private static StairLines comesInTick(int tick) {
+        StairLines x = new StairLines();
+        rule(x, "9", "tick=" + tick, "0");
+        x.come(1, 3, 1);
+        return x;
     }
 
     private static void soonestOfWhoNeverEnds() {
@@ -420,6 +471,20 @@ public final class EdgesOfBetterTest {
         // the last is to have a bell 0; three at once are out sooner than three one by one, though one stands
         DUE.is("soonest", x.order(NONE), 33);
         DUE.is("ENDS is ahead of STOOD", x.order(1), 2);
+        // the other way round it is 15 ticks, but nobody stands
+        StairLines z = new StairLines();
+        z.step(9, 4, 9);
+        z.come(1, 9, 41);
+        z.come(1, 0, 11);
+        DUE.is("two stand", z.run(1), 2);
+        DUE.is("soonest", z.order(NONE), 13);
+        DUE.is("as it is", z.order(0), 0);
+        DUE.is("as it is", z.order(1), 1);
+        z.set(0, 0, 1);
+        z.set(0, 1, 4);
+        DUE.is("15 ticks", z.run(0), 15);
+        DUE.is("nobody stands", z.run(1), 0);
+        DUE.is("the other way round", z.order(0), 1);
         StairLines y = new StairLines();
         y.step(9, 1, 1);
         y.come(2, 9, 2);
@@ -457,6 +522,19 @@ public final class EdgesOfBetterTest {
         }
         for (int c = 0; c < 5; c++) {
             DUE.is("of like bells its own", x.order(c), c);
+        }
+    }
+
+    /** As many stand by any row, and it takes as long. */
+    private static void orderOfLikeOnesWhoStand() {
+        StairLines x = new StairLines();
+        for (int c = 0; c < 5; c++) {
+            x.come(3, 9, 100 * c + 3);
+        }
+        DUE.is("one of each stands", x.run(1), 5);
+        DUE.is("ends", x.order(NONE), 43);
+        for (int c = 0; c < 5; c++) {
+            DUE.is("its own", x.order(c), c);
         }
     }
 

@@ -33,6 +33,7 @@ public final class EdgesOfTextsTest {
         sixTexts();
         fullIsAheadOfAll();
         aFaultTakesNoNumber();
+        aFaultLeavesNothing();
         forceOfTheTextsThereAre();
         forceTellsWhichWas();
         signsAnswer1Or0();
@@ -462,6 +463,23 @@ public final class EdgesOfTextsTest {
         DUE.is("there is room still", Due.text(x, PLAIN), 5);
     }
 
+    /** Nothing of a text that had a FAULT is in the next one, which is read to the same place. */
+    private static void aFaultLeavesNothing() {
+        String[] faults = {"slows 9;comes 8;minds not 7 ?", "slows 9;comes 8;minds -7 ?", "slows 9*9*9*9;comes 1 or 1",
+            "slows 0;comes 0;minds 0;?", "slows not not not 1;comes 5", "?"};
+        for (String fault : faults) {
+            StairLines x = Edges.stuck(2);
+            DUE.holds("a fault", Due.text(x, fault) <= -100);
+            DUE.is("a text", Due.text(x, "slows 1;comes 2;minds 3;"), 1);
+            x.force(1);
+            DUE.is("minds 3", x.run(2), 2 * 400 * 3);
+            x.step(9, 0, 2);
+            DUE.is("slows 1", x.on(9, 1), 1);
+            x.come(9, 3, 9);
+            DUE.is("comes 2", x.on(3, 1), 2);
+        }
+    }
+
     /** "A TEXT is THE RULE: which was. BAD." */
     private static void forceOfTheTextsThereAre() {
         EDGES.bounds("force of one", BAD, Edges::fresh, StairLines::force, 0, 0);
@@ -498,7 +516,9 @@ public final class EdgesOfTextsTest {
         DUE.is("or of one", e("0 or 7"), 1);
         DUE.is("or of none", e("0 or 0"), 0);
         DUE.is("and", e("6 and 7"), 1);
-        DUE.is("and of one", e("7 and 0"), 0);
+        DUE.is("and of the first", e("7 and 0"), 0);
+        DUE.is("and of the second", e("0 and 7"), 0);
+        DUE.is("and of none", e("0 and 0"), 0);
         DUE.is("and of bits that are apart", e("4 and 3"), 1);
         DUE.is("not", e("not 7"), 0);
         DUE.is("not of 0", e("not 0"), 1);
@@ -508,17 +528,28 @@ public final class EdgesOfTextsTest {
         DUE.is("same", e("7=7"), 1);
         DUE.is("same by one less", e("6=7"), 0);
         DUE.is("same by one more", e("8=7"), 0);
+        // comes below 0 would be 0, too
+        for (String isFalse : new String[] {"0 or 0", "7 and 0", "0 and 7", "not 7", "7<2", "7<7", "6=7"}) {
+            DUE.is("5 and " + isFalse, e("5+(" + isFalse + ")"), 5);
+        }
+        for (String isTrue : new String[] {"0 or 7", "7 or 0", "7 and 7", "not 0", "2<7", "7=7"}) {
+            DUE.is("5 and " + isTrue, e("5+(" + isTrue + ")"), 6);
+        }
     }
 
     /** "(what is not 0 is true)". */
     private static void whatIsNot0IsTrue() {
         for (String v : new String[] {"1", "2", "9999", "-1", "-9999", LEAST_INT, MOST_INT, "1-2"}) {
             DUE.is(v + " or", e("(" + v + ") or 0"), 1);
+            DUE.is("or " + v, e("0 or (" + v + ")"), 1);
+            DUE.is(v + " and", e("(" + v + ") and 1"), 1);
             DUE.is("and " + v, e("1 and (" + v + ")"), 1);
             DUE.is("not " + v, e("not (" + v + ")"), 0);
         }
         for (String v : new String[] {"0", "0000", "-0", "1-1", "4096*1024*1024"}) {
             DUE.is(v + " or", e("(" + v + ") or 0"), 0);
+            DUE.is("or " + v, e("0 or (" + v + ")"), 0);
+            DUE.is(v + " and", e("(" + v + ") and 1"), 0);
             DUE.is("and " + v, e("1 and (" + v + ")"), 0);
             DUE.is("not " + v, e("not (" + v + ")"), 1);
         }
@@ -664,6 +695,17 @@ public final class EdgesOfTextsTest {
         DUE.is("of one", x.told(0, 9), 1);
         DUE.is("of two", x.told(1, 9), 1);
         DUE.is("of five", x.told(2, 9), 1);
+        Due.ticks(x, 3);
+        DUE.is("of five, one is in still", x.told(2, 9), 1);
+        StairLines y = new StairLines();
+        Due.text(y, "slows 0;comes 9*(left=60)+7*(left=51);minds 0;");
+        y.force(1);
+        y.step(0, 0, 9);
+        y.come(60, 0, 9);
+        for (int in : new int[] {51, 44, 44}) {
+            y.tick();
+            DUE.is("of those that are in still", y.told(0, 9), in);
+        }
     }
 
     /** "else how many of all CLASSES". */
@@ -718,11 +760,10 @@ public final class EdgesOfTextsTest {
 
     /** "slows 7 < many". */
     private static void textZeroSlowsBehindSeven() {
-        int[] stay = {0, 0, 0, 0, 0, 0, 0, 1, 2};
         for (int n = 1; n <= 9; n++) {
             StairLines x = Edges.crowded(9, n);
-            x.step(9, 0, 8);
-            DUE.is("of " + n, x.on(9, 1), stay[n - 1]);
+            x.step(9, 0, n);
+            DUE.is("of " + n, x.on(9, 1), n > 7 ? 1 : 0);
         }
     }
 

@@ -423,6 +423,19 @@ public final class EdgesOfTicksTest {
         DUE.is("does not end", Edges.queue(100).run(0), 400);
         DUE.is("nobody stood", Edges.queue(100).run(1), 0);
         DUE.is("most", Edges.queue(100).run(3), 1);
+        // one who is stuck from the tick on in which he comes
+        for (int tick = 396; tick <= 402; tick++) {
+            StairLines x = new StairLines();
+            rule(x, "9", "tick=" + tick, "7");
+            x.come(1, 3, 1);
+            int stood = Math.max(0, 399 - tick);
+            DUE.is("ends", x.run(0), 400);
+            DUE.is("stood from " + tick, x.run(1), stood);
+            DUE.is("minded from " + tick, x.run(2), 7 * stood);
+            DUE.is("most from " + tick, x.run(3), tick <= 399 ? 1 : 0);
+            DUE.is("on from " + tick, x.on(3, 400), tick <= 399 ? 1 : 0);
+            DUE.is("holds up from " + tick, x.holdsUp(), stood > 0 ? 3 : NONE);
+        }
     }
 
     private static void runStopsAt400() {
