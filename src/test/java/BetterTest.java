@@ -3,19 +3,30 @@ public final class BetterTest {
     private static final Due DUE = new Due();
 
     public static void main(String[] args) {
+        DUE.promise(13);
         widen();
+        DUE.promise(14);
         later();
+        DUE.promise(15);
         apart();
+        DUE.promise(16);
         order();
         orderByStood();
+        DUE.promise(17);
         shut();
+        DUE.promise(18);
         drill();
+        DUE.promise(19);
         judge();
+        DUE.promise(20);
         look();
+        DUE.promise(21);
         drawn();
+        DUE.promise(22, 23);
         imageAndBack();
         backTwice();
         imageKeepsNoTexts();
+        DUE.promise(24);
         count();
         DUE.end();
     }

@@ -1,13 +1,34 @@
-/** Counts the answers of a test that are not as due. */
+/** Counts the answers of a test that are not as due, and tells of which promises they are. */
 final class Due {
     private int wrong = 0;
     private int asked = 0;
+    private int askedAhead = 0;
+    private String named = "";
+
+    /** What is asked from now on is of these promises. */
+    void promise(int... numbers) {
+        nameAsked();
+        StringBuilder name = new StringBuilder(numbers.length == 1 ? "promise" : "promises");
+        for (int i = 0; i < numbers.length; i++) {
+            name.append(i == 0 ? " " : ", ").append(numbers[i]);
+        }
+        named = name.append(": ").toString();
+        askedAhead = asked;
+    }
+
+    /** A name without an answer behind it would tell of a test that there is not. */
+    private void nameAsked() {
+        if (!named.isEmpty() && asked == askedAhead) {
+            wrong++;
+            System.out.println(named + "nothing was asked");
+        }
+    }
 
     void is(String call, long got, long want) {
         asked++;
         if (got != want) {
             wrong++;
-            System.out.println(call + " answered " + got + ", due is " + want);
+            System.out.println(named + call + " answered " + got + ", due is " + want);
         }
     }
 
@@ -62,6 +83,7 @@ final class Due {
     }
 
     void end() {
+        nameAsked();
         System.out.println(asked + " answers, " + wrong + " not as due");
         if (wrong != 0) {
             System.exit(1);

@@ -5,6 +5,7 @@ public final class EdgesOfBetterTest {
     private static final int BAD = StairLines.BAD, STATE = StairLines.STATE, NONE = StairLines.NONE;
 
     public static void main(String[] args) {
+        DUE.promise(13);
         widenOfNobody();
         widenOnlyIfLess();
         widenByOne();
@@ -12,6 +13,7 @@ public final class EdgesOfBetterTest {
         widenOfTheFirstAndTheLast();
         widenOfLikeOnes();
         widenOfWhoNeverEnds();
+        DUE.promise(14);
         laterOfNobody();
         laterOnlyIfLess();
         laterBy20();
@@ -19,6 +21,7 @@ public final class EdgesOfBetterTest {
         laterOfLikeOnes();
         laterOfTheLastClass();
         laterOfTheLeast();
+        DUE.promise(15);
         apartOfTwo();
         apartOfNobody();
         apartFrom0To30();
@@ -28,6 +31,7 @@ public final class EdgesOfBetterTest {
         soonestFrom0To30();
         soonestOfLikeOnes();
         soonestOfWhoNeverEnds();
+        DUE.promise(16);
         orderOfTheClassesThereAre();
         orderOfNobody();
         orderOfOne();
@@ -37,34 +41,43 @@ public final class EdgesOfBetterTest {
         orderOfLikeOnesWhoStand();
         orderOfBellsThatHaveRung();
         orderOfWhoNeverEnds();
+        DUE.promise(17);
         shutOfSteps();
         shutFor0To100();
         shutTillTheLastTick();
         shutOfWhoNeverEnds();
+        DUE.promise(18);
         drillOfNobody();
         drillOfLateBells();
         drillOfWhoNeverEnds();
+        DUE.promise(19);
         judgeRefuses();
         judgeOfAnEmptySheet();
         judgeOf40();
         judgeOfTheFirst();
         judgeOfBits();
+        DUE.promise(20);
         lookOfSteps();
         lookAt0To400();
         lookIsOfFullOnes();
         lookAtAllOf400();
+        DUE.promise(21);
         drawnOfAnySeed();
         drawnOfNobody();
         drawnOfWhoNeverEnds();
-        backWithoutAnImage();
+        DUE.promise(22, 23);
         imageOfANewObject();
         imageOfAFullObject();
         imageKeepsAllItSays();
         imageKeepsNothingElse();
         imageIsKeptByBack();
         imageIsTheLast();
+        DUE.promise(23);
+        backWithoutAnImage();
+        DUE.promise(24);
         countOfEight();
         countFromEmptyToFull();
+        DUE.promise(13, 14, 15, 16, 17, 18);
         looksAheadChangeNothing();
         DUE.end();
     }

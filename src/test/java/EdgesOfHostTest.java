@@ -7,7 +7,7 @@ public final class EdgesOfHostTest {
     private static final int BELOW_ZERO = Edges.BELOW_ZERO, MIN = Edges.MIN, MAX = Edges.MAX;
 
     public static void main(String[] args) {
-        allAreMissingAtFirst();
+        DUE.promise(25);
         sheetsAre0To3();
         sortsAre0To2();
         rowsAreOf40AtMost();
@@ -16,6 +16,9 @@ public final class EdgesOfHostTest {
         missingWhateverN();
         allAre0();
         shorterAndLonger();
+        DUE.promise(19, 26, 27, 28);
+        allAreMissingAtFirst();
+        DUE.promise(26);
         cellOfSheets();
         cellOfItems();
         cellOfAnEmptyRow();
@@ -23,6 +26,7 @@ public final class EdgesOfHostTest {
         lowest8Bits();
         lowest16Bits();
         all32Bits();
+        DUE.promise(27);
         copyOfSheets();
         copyOfMissing();
         copyOfUnlikeSorts();
@@ -34,6 +38,7 @@ public final class EdgesOfHostTest {
         copyNamesItsRefusalsInOrder();
         copyAsTheyWere();
         copyOfAll40();
+        DUE.promise(28);
         classesOfSheets();
         classesOfSorts();
         classesOf0To5();
@@ -46,6 +51,7 @@ public final class EdgesOfHostTest {
         othersAreLeftOut();
         classesWhenFull();
         classesNameTheirRefusalsInOrder();
+        DUE.promise(29);
         takenOfKinds();
         takenOfSteps();
         takenUnderOthers();

@@ -7,9 +7,11 @@ public final class EdgesOfTextsTest {
     private static final String LEAST_INT = "2048*1024*1024", MOST_INT = "2048*1024*1024-1";
 
     public static void main(String[] args) {
+        DUE.promise(6);
         bytesAre0To255();
         theTapeHas160Bytes();
         badIsAheadOfTheFullTape();
+        DUE.promise(7);
         aTextOf160Bytes();
         faultsAtTheEndsOf160Bytes();
         theTapeIsEmptyThen();
@@ -34,14 +36,17 @@ public final class EdgesOfTextsTest {
         fullIsAheadOfAll();
         aFaultTakesNoNumber();
         aFaultLeavesNothing();
+        DUE.promise(8);
         forceOfTheTextsThereAre();
         forceTellsWhichWas();
+        DUE.promise(7, 9);
         signsAnswer1Or0();
         whatIsNot0IsTrue();
         intsWrap();
         comparisonsDoNotWrap();
         comesIs0AtLeast();
         comesIs9AtMost();
+        DUE.promise(7, 10, 11);
         slowsIs0AtLeast();
         slowsIs9AtMost();
         mindsIs0AtLeast();
@@ -50,6 +55,7 @@ public final class EdgesOfTextsTest {
         leftOfComesIsOfOneClass();
         leftOfTheOthersIsOfAllClasses();
         namesAtTheirEnds();
+        DUE.promise(1, 10, 11);
         textZeroSlowsBehindSeven();
         textZeroIsTheRuleAtFirst();
         DUE.end();

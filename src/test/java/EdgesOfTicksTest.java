@@ -5,6 +5,7 @@ public final class EdgesOfTicksTest {
     private static final int BAD = StairLines.BAD, NONE = StairLines.NONE;
 
     public static void main(String[] args) {
+        DUE.promise(9);
         noMoreLeaveThanAreThere();
         noMoreLeaveThanPassesLets();
         passesLessSlowsIs0AtLeast();
@@ -21,12 +22,13 @@ public final class EdgesOfTicksTest {
         noMoreStepOnThanThereIsRoomFor();
         theFloorHasRoomByThen();
         classesStepOnByNumbers();
+        aTickOfNobody();
+        outIsOfAll();
+        DUE.promise(10);
         whoComesDoesNotStand();
         whoStaysStands();
         mindsAreToldAsAllIsThen();
         mindsAreToldInTheOldTick();
-        aTickOfNobody();
-        outIsOfAll();
         runOfFour();
         runOfNobodyIsEmpty();
         runOfWhoIsOutIsEmpty();
@@ -37,15 +39,18 @@ public final class EdgesOfTicksTest {
         runFromNowOn();
         mostIsAtTheEndOfATick();
         mostCanBe76();
+        DUE.promise(11);
         onBehind0To400();
         onOfSteps();
         onBehind400();
         onAfterAllAreOut();
         onIsNow();
+        DUE.promise(12);
         holdsUpOfNobody();
         holdsUpOfTheFirstAndTheLast();
         holdsUpOfLikeOnes();
         holdsUpStopsAt400();
+        DUE.promise(10, 11, 12);
         looksAheadChangeNothing();
         DUE.end();
     }

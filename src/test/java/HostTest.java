@@ -3,15 +3,20 @@ public final class HostTest {
     private static final Due DUE = new Due();
 
     public static void main(String[] args) {
+        DUE.promise(25);
         sheet();
+        DUE.promise(26);
         cell();
+        DUE.promise(27);
         copy();
         copyRefuses();
         copyOverItself();
+        DUE.promise(28);
         classes();
         classesBySorts();
         classesRefuse();
         classesStopOutside();
+        DUE.promise(29);
         taken();
         DUE.end();
     }

@@ -3,16 +3,22 @@ public final class StepsAndClassesTest {
     private static final Due DUE = new Due();
 
     public static void main(String[] args) {
+        DUE.promise(1);
         newObject();
-        holdsAndPasses();
-        passesByTicks();
+        DUE.promise(2);
         stepRefuses();
         stepKeepsWhoIsOnIt();
+        DUE.promise(3);
         come();
         comeIsFull();
+        DUE.promise(4);
         set();
         setRefuses();
         setMovesThem();
+        DUE.promise(2, 5);
+        holdsAndPasses();
+        DUE.promise(5);
+        passesByTicks();
         told();
         DUE.end();
     }

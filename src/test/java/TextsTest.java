@@ -4,12 +4,16 @@ public final class TextsTest {
     private static final String PLAIN = "slows 1;comes 2;minds 3;";
 
     public static void main(String[] args) {
+        DUE.promise(6);
         feed();
+        DUE.promise(7);
         faults();
         openOnes();
         textsAreFull();
         tapeIsEmptyThen();
+        DUE.promise(8);
         force();
+        DUE.promise(7, 9);
         values();
         names();
         bounds();

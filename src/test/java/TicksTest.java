@@ -3,15 +3,20 @@ public final class TicksTest {
     private static final Due DUE = new Due();
 
     public static void main(String[] args) {
+        DUE.promise(9);
         tick();
         tickByRoom();
         tickByClasses();
+        DUE.promise(10);
         run();
         runMinds();
         runThatNeverEnds();
-        runChangesNothing();
+        DUE.promise(11);
         on();
+        DUE.promise(12);
         holdsUp();
+        DUE.promise(10, 11, 12, 13, 14, 15, 16, 17, 18, 19, 20, 21);
+        runChangesNothing();
         DUE.end();
     }
 
