@@ -98,9 +98,7 @@ final class Edges {
         for (int c = 0; c < 5; c++) {
             x.come(9 + c, c, 3);
         }
-        while (x.count(6) < 160) {
-            x.feed(32);
-        }
+        Due.feed(x, " ".repeat(160));
         return x;
     }
 

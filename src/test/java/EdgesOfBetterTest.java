@@ -26,6 +26,7 @@ public final class EdgesOfBetterTest {
         apartOfNobody();
         apartFrom0To30();
         apartOfFiveClasses();
+        apartOfEachFloor();
         apartOfNone();
         apartBeyond400();
         soonestFrom0To30();
@@ -40,6 +41,7 @@ public final class EdgesOfBetterTest {
         orderOfLikeOnes();
         orderOfLikeOnesWhoStand();
         orderOfBellsThatHaveRung();
+        orderWhenManyAreOut();
         orderOfWhoNeverEnds();
         DUE.promise(17);
         shutOfSteps();
@@ -356,6 +358,19 @@ public final class EdgesOfBetterTest {
         DUE.is("bells that have rung ring still", x.apart(0), 1);
     }
 
+    /** No step is shut by it: two and two who step on at the same step must be one tick apart. */
+    private static void apartOfEachFloor() {
+        for (int s = 0; s <= 9; s++) {
+            StairLines x = new StairLines();
+            x.come(2, s, 2);
+            DUE.is("nobody stands from floor " + s, x.apart(0), 0);
+            x.come(2, s, 2);
+            DUE.is("two of four stand from floor " + s, x.apart(0), 1);
+            x.come(3, s, 3);
+            DUE.is("one of three stands from floor " + s, x.apart(0), NONE);
+        }
+    }
+
     /** "NONE". */
     private static void apartOfNone() {
         EDGES.leaves("apart(0)", () -> oneByOne(31, 2), x -> x.apart(0), NONE);
@@ -566,6 +581,22 @@ public final class EdgesOfBetterTest {
             }
             DUE.is("ends from tick " + now, x.order(NONE), 11);
         }
+    }
+
+    /** More are OUT than ticks have passed, so that bells of later ticks are less than that, too. */
+    private static void orderWhenManyAreOut() {
+        StairLines x = lonely();
+        x.come(9, 9, 9);
+        x.come(1, 9, 31);
+        x.come(1, 0, 71);
+        Due.ticks(x, 2);
+        DUE.is("eight are out in two ticks", x.count(2), 8);
+        // the last needs ten ticks, so it is to have the bell 0, which has rung
+        int[] row = {1, 2, 0};
+        for (int c = 0; c < 3; c++) {
+            DUE.is("class " + c, x.order(c), row[c]);
+        }
+        DUE.is("one tick to step on, ten steps", x.order(NONE), 11);
     }
 
     private static void orderOfWhoNeverEnds() {

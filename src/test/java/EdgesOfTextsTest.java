@@ -278,6 +278,12 @@ public final class EdgesOfTextsTest {
         is(PLAIN + ";", -124);
         is(PLAIN + " ;", -125);
         is(PLAIN + "slows", -124);
+        // what is no TOKEN at all can't stand there either
+        is(PLAIN + "x", -124);
+        is(PLAIN + " manymany", -125);
+        is(PLAIN + "99999", -124);
+        is(PLAIN + "many", -124);
+        is(PLAIN + "or", -124);
         is(PLAIN + PLAIN, -124);
         is(PLAIN + ")", -124);
         is(PLAIN + "?", -124);
